@@ -855,7 +855,6 @@ public final class DawnTable {
             if (height >= ROWS) return;
             long[] row = sheet[height];
             height++;
-            Arrays.fill(row, 0);
             int way = t.least[letter] ? 1 : -1;
             long over = -t.limit[letter];
             for (int w = 0; w < WISHES; w++) {

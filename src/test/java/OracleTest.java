@@ -75,7 +75,8 @@ public final class OracleTest {
 
     private String table() {
         int letters = upTo(3) == 0 ? 31 : 1 + random.nextInt(31);
-        int small = upTo(1) == 0 ? 1 + upTo(8) : 99;
+        int small = upTo(1) == 0 ? upTo(9) : 99;
+        int leastOf = 1 + upTo(3);
         int style = upTo(3);
         StringBuilder text = new StringBuilder();
         boolean[] told = new boolean[5];
@@ -84,7 +85,7 @@ public final class OracleTest {
             int g = (start + 2 * i) % 5;
             if ((letters >> g & 1) == 0) continue;
             told[g] = true;
-            boolean least = upTo(3) == 0;
+            boolean least = upTo(leastOf) == 0;
             int n = upTo(least ? 20 : upTo(1) == 0 ? 30 : 99);
             text.append("gate ").append((char) ('A' + g)).append(least ? " least " : " most ").append(n).append(';');
         }

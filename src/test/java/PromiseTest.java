@@ -201,6 +201,12 @@ public final class PromiseTest {
         fault("gate\tA most 1;", 4);
         fault("gate A most 1;\n", 14);
         fault("gates A most 1;", 0);
+        fault("gatez A most 1;", 0);
+        fault("hate A most 1;", 0);
+        fault("gat A most 1;", 0);
+        fault("dish 1 all 1;", 0);
+        fault("gate A lost 1;", 7);
+        fault("gate A leasz 1;", 7);
         fault("Gate A most 1;", 0);
         fault("\u00e7", 0);
         fault("part 1 #", 0);
@@ -337,6 +343,11 @@ public final class PromiseTest {
         due("whole", t.best(1, 0, 0), 2);
         fraction("loose", t.best(1, 1, 0), t.best(1, 1, 1), 3, 2);
         t = read("gate A most 99;wish 2 whole 12 A 2;wish 4 whole 12 A 4;wish 6 whole 12 A 6;wish 8 whole 12 A 8;");
+        // the whole of the order is needed on the way there: worths of 0, and two gates that lift x of wish 0 alike
+        DawnTable zero = read("gate A least 5;gate B least 10;gate C most 21;"
+            + "wish 0 part 9 A 1 B 2 C 3;wish 0 part 12 B 1 C 3;");
+        due("least x of wish 0", zero.best(0, 0, 0), 5);
+        due("then of 1", zero.best(1, 0, 0), 0);
         long[] want = {0, 0, 3, 10};
         for (int w = 0; w < 4; w++) due("of very many the first, wish " + w, t.best(w, 0, 0), want[w]);
     }
@@ -415,6 +426,10 @@ public final class PromiseTest {
         t = read("gate A most 5;gate B most 5;gate C least 11;wish 1 part 9 A 1 C 1;wish 1 part 9 B 1 C 1;");
         due("all three", t.clash(0), 3);
         due("all three", t.clash(1), 7);
+        t = read("gate A most 1;gate B most 1;gate C most 1;gate D most 1;gate E least 5;"
+            + "wish 1 all 9 A 1 E 1;wish 1 all 9 B 1 E 1;wish 1 all 9 C 1 E 1;wish 1 all 9 D 1 E 1;");
+        due("all five", t.clash(0), 5);
+        due("all five", t.clash(1), 31);
     }
 
     private static void tell() {
