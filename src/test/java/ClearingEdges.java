@@ -160,6 +160,13 @@ final class ClearingEdges extends Sentence {
         x(t, 0, 2, 3);
         x(t, 1, 1, 1);
         x(t, 2, 0, 1);
+        // D leaves 3 of wish 1 and none of wish 2, B then needs 3/2 of wish 3, which is worth nothing and could be 4
+        t = read("gate A least 9;gate B least 12;gate C most 16;gate D most 9;gate E least 5;wish 0 whole 8 B 4 E 4;"
+            + "wish 1 part 7 A 3 B 3 C 3 D 3 E 1;wish 1 whole 7 A 2 B 1 D 4 E 2;wish 0 part 4 B 2 C 1 E 4;");
+        x(t, 0, 0, 1);
+        x(t, 1, 3, 1);
+        x(t, 2, 0, 1);
+        x(t, 3, 3, 2);
         // the greater WORTH goes ahead of the least x, be it ever so little greater
         t = read("gate A most 9;wish 9 part 12 A 9;wish 8 part 12 A 8;wish 1 part 12 A 1;");
         x(t, 0, 0, 1);
