@@ -5,22 +5,31 @@ import java.lang.reflect.Method;
 import java.lang.reflect.Modifier;
 import java.nio.file.Files;
 import java.nio.file.Path;
+import java.util.ArrayList;
+import java.util.List;
+import java.util.Map;
 import java.util.Set;
+import java.util.TreeMap;
 import java.util.TreeSet;
 import java.util.regex.Matcher;
 import java.util.regex.Pattern;
 
-/** The rules of LANGUAGE.md that a look from outside can hold: the face, static state, words that may not stand. */
+/**
+ * The rules of LANGUAGE.md that a look from outside can hold: the face (word for word that of DOC.md), static state,
+ * words that may not stand, how long methods are, how deep calls go, where objects are made.
+ */
 public final class LanguageTest {
     private static final String FACE = "best check clash clear core count fair gap gate jam labour lie more off reach "
         + "table tell trace type uses wish worth";
     private static final String[] BANNED = {"\\b(throw|throws|try|catch|synchronized|assert|protected)\\b", "->", "::",
         "\\bstatic\\s*\\{", "\\w+Exact\\b", "\\b(hashCode|toString|System\\.(?!arraycopy)|Thread|Random)\\b",
         "\\bMath\\.(random|sqrt|pow)\\b", "\"\\s*\\+", "\\+\\s*\"", "^package\\b"};
+    private static final int LONGEST = 60, DEEPEST = 8;
     private static int wrong = 0;
 
     public static void main(String[] args) throws IOException {
         face();
+        document(Path.of(args[0], "..", "shared", "DOC.md"));
         inside(DawnTable.class);
         Class<?>[] classes = DawnTable.class.getDeclaredClasses();
         if (classes.length > 12) tell("more than twelve classes");
@@ -28,7 +37,9 @@ public final class LanguageTest {
             if (!Modifier.isStatic(c.getModifiers())) tell(c + " is not static");
             inside(c);
         }
-        source(Files.readString(Path.of(args[0], "src/main/java/DawnTable.java")));
+        String text = Files.readString(Path.of(args[0], "src/main/java/DawnTable.java"));
+        source(text);
+        methods(bare(text));
         System.out.println("language: " + wrong + " wrong");
         if (wrong != 0) System.exit(1);
     }
@@ -77,8 +88,13 @@ public final class LanguageTest {
         }
     }
 
+    /** Without comments. */
+    private static String bare(String text) {
+        return text.replaceAll("(?s)/\\*.*?\\*/", "").replaceAll("//[^\n]*", "");
+    }
+
     private static void source(String text) {
-        String bare = text.replaceAll("(?s)/\\*.*?\\*/", "").replaceAll("//[^\n]*", "");
+        String bare = bare(text);
         for (String banned : BANNED) {
             Matcher m = Pattern.compile(banned, Pattern.MULTILINE).matcher(bare);
             if (m.find()) tell("may not stand in the source: " + m.group());
@@ -90,5 +106,89 @@ public final class LanguageTest {
             }
         }
         for (char c : text.toCharArray()) if (c > 126 || c < 32 && c != '\n') tell("a sign beyond 126 stands in the source");
+    }
+
+    /** Every line of the document's face, with its types, its names' order and its constants' values. */
+    private static void document(Path path) throws IOException {
+        if (!Files.exists(path)) {
+            System.out.println("the document is not at " + path + ": its face is not looked at");
+            return;
+        }
+        Matcher block = Pattern.compile("(?s)public final class DawnTable \\{(.*?)\n\\}").matcher(Files.readString(path));
+        if (!block.find()) {
+            tell("the document has no face");
+            return;
+        }
+        Set<String> due = new TreeSet<>();
+        Set<String> is = new TreeSet<>();
+        Matcher call = Pattern.compile("public (\\w+) (\\w+)\\(([^)]*)\\);").matcher(block.group(1));
+        while (call.find()) {
+            due.add(call.group(1) + " " + call.group(2) + "(" + call.group(3).replaceAll(" \\w+(?=,|$)", "") + ")");
+        }
+        for (Method m : DawnTable.class.getDeclaredMethods()) {
+            if (!Modifier.isPublic(m.getModifiers())) continue;
+            List<String> types = new ArrayList<>();
+            for (Class<?> c : m.getParameterTypes()) types.add(c.getName());
+            is.add(m.getReturnType().getName() + " " + m.getName() + "(" + String.join(", ", types) + ")");
+        }
+        Matcher constants = Pattern.compile("public static final (int|long) ([^;]*);").matcher(block.group(1));
+        while (constants.find()) {
+            for (String one : constants.group(2).split(", ")) due.add(constants.group(1) + " " + one.replaceAll("(?<=\\d)L$", ""));
+        }
+        for (Field f : DawnTable.class.getFields()) is.add(f.getType() + " " + f.getName() + " = " + valueOf(f));
+        if (due.size() != 27) tell("the face of the document has " + due.size() + " names");
+        if (!due.equals(is)) tell("the face is\n" + is + "\nthat of the document\n" + due);
+    }
+
+    private static String valueOf(Field f) {
+        try {
+            return String.valueOf(f.get(null));
+        } catch (IllegalAccessException e) {
+            return "hidden";
+        }
+    }
+
+    /** Methods by name; those of one name are looked at as one, so the depth told is at least the true one. */
+    private static void methods(String bare) {
+        Map<String, Set<String>> calls = new TreeMap<>();
+        Pattern begin = Pattern.compile("^( {4}| {8})(?:(?:public|private|static|final) )*[\\w\\[\\]]+ (\\w+)\\([^)]*\\) \\{$");
+        String name = null;
+        String end = "";
+        int length = 0;
+        for (String line : bare.split("\n")) {
+            Matcher m = begin.matcher(line);
+            if (name == null && m.find()) {
+                name = m.group(2);
+                end = m.group(1) + "}";
+                length = 0;
+                calls.putIfAbsent(name, new TreeSet<>());
+                continue;
+            }
+            boolean field = name == null && line.matches("\\s+(private |final )+.* = new .*|\\s+private Table now = .*");
+            if (line.contains("new ") && !field) tell("an object is made outside a field's beginning: " + line.trim());
+            if (name == null) continue;
+            length++;
+            if (length > LONGEST) tell(name + " is longer than " + LONGEST + " lines");
+            Matcher call = Pattern.compile("(\\w+)\\(").matcher(line);
+            while (call.find()) if (!Set.of("if", "for", "while", "switch").contains(call.group(1))) calls.get(name).add(call.group(1));
+            if (line.equals(end)) name = null;
+        }
+        if (calls.size() < 60) tell("only " + calls.size() + " methods were seen");
+        for (String one : FACE.split(" ")) {
+            int depth = depth(calls, one, new ArrayList<>());
+            if (depth > DEEPEST) tell(one + " goes " + depth + " deep");
+        }
+    }
+
+    private static int depth(Map<String, Set<String>> calls, String name, List<String> open) {
+        if (open.contains(name)) {
+            if (!name.equals(open.get(open.size() - 1)) || !name.equals("search")) tell("calls itself: " + open + " " + name);
+            return 0;
+        }
+        open.add(name);
+        int most = 0;
+        for (String next : calls.getOrDefault(name, Set.of())) most = Math.max(most, depth(calls, next, open));
+        open.remove(open.size() - 1);
+        return most + 1;
     }
 }
