@@ -24,6 +24,8 @@ public final class LanguageTest {
     private static final String[] BANNED = {"\\b(throw|throws|try|catch|synchronized|assert|protected)\\b", "->", "::",
         "\\bstatic\\s*\\{", "\\w+Exact\\b", "\\b(hashCode|toString|System\\.(?!arraycopy)|Thread|Random)\\b",
         "\\bMath\\.(random|sqrt|pow)\\b", "\"\\s*\\+", "\\+\\s*\"", "^package\\b"};
+    private static final Pattern METHOD = Pattern.compile(
+        "^( {4}| {8})(?:(?:public|private|static|final) )*[\\w\\[\\]]+ (\\w+)\\([^)]*\\) \\{$");
     private static final int LONGEST = 60, DEEPEST = 8;
     private static int wrong = 0;
 
@@ -108,36 +110,46 @@ public final class LanguageTest {
         for (char c : text.toCharArray()) if (c > 126 || c < 32 && c != '\n') tell("a sign beyond 126 stands in the source");
     }
 
-    /** Every line of the document's face, with its types, its names' order and its constants' values. */
+    /** Every line of the document's face, with its types and its constants' values. */
     private static void document(Path path) throws IOException {
         if (!Files.exists(path)) {
             System.out.println("the document is not at " + path + ": its face is not looked at");
             return;
         }
-        Matcher block = Pattern.compile("(?s)public final class DawnTable \\{(.*?)\n\\}").matcher(Files.readString(path));
-        if (!block.find()) {
-            tell("the document has no face");
-            return;
-        }
-        Set<String> due = new TreeSet<>();
-        Set<String> is = new TreeSet<>();
-        Matcher call = Pattern.compile("public (\\w+) (\\w+)\\(([^)]*)\\);").matcher(block.group(1));
+        String text = Files.readString(path);
+        Matcher block = Pattern.compile("(?s)public final class DawnTable \\{(.*?)\n\\}").matcher(text);
+        Set<String> due = block.find() ? faceOf(block.group(1)) : Set.of();
+        Set<String> is = faceOfClass();
+        if (due.size() != 27) tell("the face of the document has " + due.size() + " names");
+        if (!due.equals(is)) tell("the face is\n" + is + "\nthat of the document\n" + due);
+    }
+
+    private static Set<String> faceOf(String block) {
+        Set<String> face = new TreeSet<>();
+        Matcher call = Pattern.compile("public (\\w+) (\\w+)\\(([^)]*)\\);").matcher(block);
         while (call.find()) {
-            due.add(call.group(1) + " " + call.group(2) + "(" + call.group(3).replaceAll(" \\w+(?=,|$)", "") + ")");
+            String types = call.group(3).replaceAll(" \\w+(?=,|$)", "");
+            face.add(call.group(1) + " " + call.group(2) + "(" + types + ")");
         }
+        Matcher constants = Pattern.compile("public static final (int|long) ([^;]*);").matcher(block);
+        while (constants.find()) {
+            for (String one : constants.group(2).replaceAll("(?<=\\d)L\\b", "").split(", ")) {
+                face.add(constants.group(1) + " " + one);
+            }
+        }
+        return face;
+    }
+
+    private static Set<String> faceOfClass() {
+        Set<String> face = new TreeSet<>();
         for (Method m : DawnTable.class.getDeclaredMethods()) {
             if (!Modifier.isPublic(m.getModifiers())) continue;
             List<String> types = new ArrayList<>();
             for (Class<?> c : m.getParameterTypes()) types.add(c.getName());
-            is.add(m.getReturnType().getName() + " " + m.getName() + "(" + String.join(", ", types) + ")");
+            face.add(m.getReturnType() + " " + m.getName() + "(" + String.join(", ", types) + ")");
         }
-        Matcher constants = Pattern.compile("public static final (int|long) ([^;]*);").matcher(block.group(1));
-        while (constants.find()) {
-            for (String one : constants.group(2).split(", ")) due.add(constants.group(1) + " " + one.replaceAll("(?<=\\d)L$", ""));
-        }
-        for (Field f : DawnTable.class.getFields()) is.add(f.getType() + " " + f.getName() + " = " + valueOf(f));
-        if (due.size() != 27) tell("the face of the document has " + due.size() + " names");
-        if (!due.equals(is)) tell("the face is\n" + is + "\nthat of the document\n" + due);
+        for (Field f : DawnTable.class.getFields()) face.add(f.getType() + " " + f.getName() + " = " + valueOf(f));
+        return face;
     }
 
     private static String valueOf(Field f) {
@@ -148,29 +160,26 @@ public final class LanguageTest {
         }
     }
 
-    /** Methods by name; those of one name are looked at as one, so the depth told is at least the true one. */
     private static void methods(String bare) {
         Map<String, Set<String>> calls = new TreeMap<>();
-        Pattern begin = Pattern.compile("^( {4}| {8})(?:(?:public|private|static|final) )*[\\w\\[\\]]+ (\\w+)\\([^)]*\\) \\{$");
         String name = null;
         String end = "";
         int length = 0;
         for (String line : bare.split("\n")) {
-            Matcher m = begin.matcher(line);
-            if (name == null && m.find()) {
-                name = m.group(2);
-                end = m.group(1) + "}";
+            Matcher begin = METHOD.matcher(line);
+            if (name == null && begin.find()) {
+                name = begin.group(2);
+                end = begin.group(1) + "}";
                 length = 0;
                 calls.putIfAbsent(name, new TreeSet<>());
                 continue;
             }
-            boolean field = name == null && line.matches("\\s+(private |final )+.* = new .*|\\s+private Table now = .*");
-            if (line.contains("new ") && !field) tell("an object is made outside a field's beginning: " + line.trim());
+            boolean field = name == null && line.matches("\\s+(private|final) .* = new .*");
+            if (line.contains("new ") && !field) tell("an object is made where no field begins: " + line.trim());
             if (name == null) continue;
             length++;
             if (length > LONGEST) tell(name + " is longer than " + LONGEST + " lines");
-            Matcher call = Pattern.compile("(\\w+)\\(").matcher(line);
-            while (call.find()) if (!Set.of("if", "for", "while", "switch").contains(call.group(1))) calls.get(name).add(call.group(1));
+            addCalls(line, calls.get(name));
             if (line.equals(end)) name = null;
         }
         if (calls.size() < 60) tell("only " + calls.size() + " methods were seen");
@@ -180,9 +189,18 @@ public final class LanguageTest {
         }
     }
 
+    private static void addCalls(String line, Set<String> to) {
+        Matcher call = Pattern.compile("(\\w+)\\(").matcher(line);
+        while (call.find()) {
+            if (!Set.of("if", "for", "while", "switch").contains(call.group(1))) to.add(call.group(1));
+        }
+    }
+
+    /** Methods of one name are looked at as one, so the depth told is at least the true one. */
     private static int depth(Map<String, Set<String>> calls, String name, List<String> open) {
         if (open.contains(name)) {
-            if (!name.equals(open.get(open.size() - 1)) || !name.equals("search")) tell("calls itself: " + open + " " + name);
+            boolean guarded = name.equals("search") && name.equals(open.get(open.size() - 1));
+            if (!guarded) tell("calls itself: " + open + " " + name);
             return 0;
         }
         open.add(name);
